@@ -888,8 +888,9 @@ public final class PlaySpans {
             return sum;
         }
 
+        /** Neither is above WAYS_AT_MOST, so the sum of the two fits an int. */
         private static int capped(int a, int b) {
-            return (int) Math.min(WAYS_AT_MOST, (long) a + b);
+            return Math.min(WAYS_AT_MOST, a + b);
         }
 
         private void tallyChain(Player player, int hand, int most) {
@@ -923,10 +924,12 @@ public final class PlaySpans {
             clearRows(there, player.countOf(next));
             for (int k = 0; k < player.countOf(i); k++) {
                 int cheapest = cheapestOf(k, most);
-                for (int l = 0; cheapest <= most && l < player.countOf(next); l++) {
+                int dearest = dearestOf(k, most);
+                for (int l = 0; cheapest <= dearest && l < player.countOf(next); l++) {
                     int stepPrice = player.piece.allows(next, l) ? player.stepPrice(i, k, next, l) : NONE;
                     if (stepPrice != NONE) {
-                        carry(k, l, cheapest, stepPrice + player.priceOf(next, l), most);
+                        int more = stepPrice + player.priceOf(next, l);
+                        carry(k * ROW, l * ROW + more, cheapest, Math.min(dearest, most - more));
                     }
                 }
             }
@@ -946,16 +949,24 @@ public final class PlaySpans {
             return most + 1;
         }
 
-        /** Adds the row of STATE k, from its PRICE cheapest on, to that of STATE l, dearer by more. */
-        private void carry(int k, int l, int cheapest, int more, int most) {
-            int from = k * ROW;
-            int to = l * ROW + more;
-            int end = most - more;
-            if (from < 0 || cheapest < 0 || more < 0 || from + end >= here.length || to < 0
-                    || to + end >= there.length) {
+        /** The greatest such PRICE up to most; -1, if there is none. */
+        private int dearestOf(int k, int most) {
+            for (int price = most; price >= 0; price--) {
+                int at = k * ROW + price;
+                if (at >= 0 && at < here.length && here[at] != 0) {
+                    return price;
+                }
+            }
+            return -1;
+        }
+
+        /** Adds what stands here behind from to what stands there behind to, for these PRICES. */
+        private void carry(int from, int to, int cheapest, int dearest) {
+            if (from < 0 || to < 0 || cheapest < 0 || dearest >= here.length - from
+                    || dearest >= there.length - to) {
                 return;
             }
-            for (int price = cheapest; price <= end; price++) {
+            for (int price = cheapest; price <= dearest; price++) {
                 there[to + price] = capped(there[to + price], here[from + price]);
             }
         }
