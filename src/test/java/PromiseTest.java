@@ -96,7 +96,6 @@ public final class PromiseTest {
 
     private static void promise2() {
         PlaySpans x = new PlaySpans(0);
-        int[] pitches = {60, -1, -1};
         for (int n : WRONG) {
             due("hand " + n, x.event(n, 0, 1, 60, -1, -1), BAD);
             due("length " + n, x.event(0, 0, n == 1000 ? 1001 : n, 60, -1, -1), BAD);
@@ -126,9 +125,11 @@ public final class PromiseTest {
             for (int notes = 1; notes <= 3; notes++) {
                 int q = notes > 1 ? 64 : -1;
                 int r = notes > 2 ? 67 : -1;
-                int got = new PlaySpans(kind).event(0, 0, 1, pitches[0], q, r);
+                int got = new PlaySpans(kind).event(0, 0, 1, 60, q, r);
                 due("notes " + notes + " on " + kind, got, notes <= most[kind] ? 0 : BAD);
             }
+            due("the lowest pitch on " + kind, new PlaySpans(kind).event(0, 0, 1, 0, -1, -1), 0);
+            due("the highest pitch on " + kind, new PlaySpans(kind).event(0, 0, 1, 127, -1, -1), 0);
             due("right on " + kind, new PlaySpans(kind).event(1, 0, 1, 60, -1, -1), kind == 0 ? 0 : BAD);
         }
     }
@@ -306,6 +307,8 @@ public final class PromiseTest {
         dueState(x, 6, 0, 1, 0, 1);
         dueState(x, 6, 1, 4, 4, 0);
         dueState(x, 6, 3, 3, 6, 0);
+        due("below all strings", on(1, ev(0, 0, 5, 10)).states(0), 0);
+        due("the second would lie beyond the last string", on(1, ev(0, 0, 5, 78, 79)).states(0), 0);
         due("by a string", x.step(0, 0, 0), 1);
         due("by three positions and a string", x.step(0, 0, 4), 7);
         due("by three positions", x.step(0, 0, 3), 6);
