@@ -4,8 +4,7 @@ import java.util.List;
 import java.util.Random;
 
 /** Rows of calls drawn from fixed seeds, each answer held against a second, slow reading of the document. */
-public final class ModelTest {
-    private static final int BAD = -1, NONE = -2, NOT = -3, FULL = -4;
+public final class ModelTest extends Asked {
     private static final long CAP = 1000000000L;
 
     private record Event(int hand, int time, int length, List<Integer> notes) { }
@@ -534,21 +533,9 @@ public final class ModelTest {
         int[] best = null;
     }
 
-    private static int wrong = 0;
-    private static long asked = 0;
     /** For each instrument: how often a WAY was asked for, and how often there was one. */
     private static final int[] sought = new int[5];
     private static final int[] found = new int[5];
-
-    private static void due(String call, int got, int want) {
-        asked++;
-        if (got != want) {
-            wrong++;
-            if (wrong <= 40) {
-                System.out.println(call + " answered " + got + ", due is " + want);
-            }
-        }
-    }
 
     /** One row of calls on one object. */
     private static final class Run {
@@ -769,9 +756,6 @@ public final class ModelTest {
         }
         System.out.println("by instrument a way was sought " + Arrays.toString(sought) + " times, and found "
                 + Arrays.toString(found) + " times");
-        System.out.println(asked + " answers looked at, " + wrong + " not as due");
-        if (wrong != 0) {
-            System.exit(1);
-        }
+        end();
     }
 }

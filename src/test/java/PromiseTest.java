@@ -1,17 +1,6 @@
 /** Each promise of the document: ordinary inputs, the edges it names, and wrong inputs; the answers are worked out by hand. */
-public final class PromiseTest {
-    private static final int BAD = -1, NONE = -2, NOT = -3, FULL = -4;
+public final class PromiseTest extends Asked {
     private static final int[] WRONG = {Integer.MIN_VALUE, -1000, -2, 1000, Integer.MAX_VALUE};
-    private static int wrong = 0;
-    private static int asked = 0;
-
-    private static void due(String call, int got, int want) {
-        asked++;
-        if (got != want) {
-            wrong++;
-            System.out.println(call + " answered " + got + ", due is " + want);
-        }
-    }
 
     public static void main(String[] args) {
         constants();
@@ -39,31 +28,7 @@ public final class PromiseTest {
         promise13();
         promise14();
         refusedChangesNothing();
-        System.out.println(asked + " answers looked at, " + wrong + " not as due");
-        if (wrong != 0) {
-            System.exit(1);
-        }
-    }
-
-    private static PlaySpans on(int instrument, int[]... events) {
-        PlaySpans x = new PlaySpans(instrument);
-        for (int i = 0; i < events.length; i++) {
-            int[] e = events[i];
-            int q = e.length > 4 ? e[4] : -1;
-            int r = e.length > 5 ? e[5] : -1;
-            due("event " + i, x.event(e[0], e[1], e[2], e[3], q, r), i);
-        }
-        return x;
-    }
-
-    private static int[] ev(int... numbers) {
-        return numbers;
-    }
-
-    private static void dueState(PlaySpans x, int i, int k, int price, int first, int second) {
-        due("state(" + i + ", " + k + ", 0)", x.state(i, k, 0), price);
-        due("state(" + i + ", " + k + ", 1)", x.state(i, k, 1), first);
-        due("state(" + i + ", " + k + ", 2)", x.state(i, k, 2), second);
+        end();
     }
 
     private static void constants() {
