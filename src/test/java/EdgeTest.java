@@ -34,6 +34,7 @@ public final class EdgeTest extends Asked {
         dropPinnedOrNot();
         dropHowManyThereAre();
         dropMakesRoom();
+        dropAndAnotherAtOnce();
         boundOutside();
         boundThatThereIsNot();
         boundWhichItWas();
@@ -408,6 +409,25 @@ public final class EdgeTest extends Asked {
         dueWays(x, 300, 1);
     }
 
+    /** Nothing is asked between the two, so that an answer kept for the dropped one would show. */
+    private static void dropAndAnotherAtOnce() {
+        sentence("3: The last EVENT goes");
+        int[][] gone = {ev(0, 90, 5, 60, 67), ev(0, 90, 5, 54), ev(0, 90, 401, 62), ev(0, 90, 5, 39), ev(0, 90, 5, 60, 61)};
+        int[] before = {5, 0, 0, 0, 1};
+        int[][] come = {ev(60, 61), ev(55, -1), ev(62, -1), ev(40, -1), ev(60, -1)};
+        int[] after = {10, 12, 2, 1, 4};
+        for (int kind = 0; kind < KINDS; kind++) {
+            PlaySpans x = on(kind, ev(0, 0, 5, 62), gone[kind]);
+            dueStates(x, 1, before[kind]);
+            due("drop", x.drop(), 1);
+            due("another", x.event(0, 80, 5, come[kind][0], come[kind][1], -1), 1);
+            dueStates(x, 1, after[kind]);
+            due("drop", x.drop(), 1);
+            due("the first again", x.event(0, 90, gone[kind][2], gone[kind][3], gone[kind].length > 4 ? gone[kind][4] : -1, -1), 1);
+            dueStates(x, 1, before[kind]);
+        }
+    }
+
     // ---- promise 4
 
     private static void boundOutside() {
@@ -515,6 +535,11 @@ public final class EdgeTest extends Asked {
             duePin(x, 0, number, BAD);
         }
         due("PINNED as it was", x.about(0, 7), 99);
+        PlaySpans most = filled(STICKS);
+        duePin(most, 39, 79, NONE);
+        due("the last STATE that any EVENT has", most.way(39), 79);
+        duePin(most, 39, 80, 79);
+        due("one beyond it", most.way(39), NONE);
     }
 
     private static void pinWhichNumberItWas() {

@@ -383,6 +383,19 @@ public final class InstrumentEdgeTest extends Asked {
             }
             due("beyond the last STRING", x.state(i, last + 1, 2), BAD);
         }
+        // nothing lies on a STRING beyond these, whatever its open PITCH would be
+        for (int pitch = 0; pitch < 55; pitch++) {
+            dueStates(on(STRINGS, ev(0, 0, 5, pitch)), 0, 0);
+        }
+        for (int open : new int[] {0, 10, 30, 34, 100, 112}) {
+            PlaySpans y = on(STRINGS, ev(0, 0, 5, open), ev(0, 9, 5, open, open + 1), ev(0, 18, 5, open, open + 1, open + 2));
+            for (int what = 6; what < 10; what++) {
+                y.bound(what, open);
+            }
+            dueStates(y, 0, 48);
+            dueStates(y, 1, 3);
+            dueStates(y, 2, 2);
+        }
     }
 
     private static void stringsOrder() {
